@@ -337,8 +337,7 @@ public final class GateWalk {
             if (isAtEnd()) {
                 return NONE;
             }
-            // One round more than there are signals: in it a signal must come again, which is a fault.
-            for (int i = 0; i <= SIGNALS; i++) {
+            for (int i = 0; i < SIGNALS; i++) {
                 if (!readEquation(into)) {
                     return at;
                 }
@@ -350,6 +349,7 @@ public final class GateWalk {
                 }
                 step();
             }
+            // All signals have equations: whatever comes in front of a thirteenth = is the fault.
             return at;
         }
 

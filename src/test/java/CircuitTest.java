@@ -28,6 +28,20 @@ final class CircuitTest {
         due.is("terms", g.count(1), 0);
         due.is("nothing stuck any more", g.stuck(3, false), false);
         due.is("no arbiter any more", g.arbiter(4, 3, false), false);
+        due.is("the walk is another", g.states(), 1);
+        Due.feed(g, "a=b';b=a'");
+        due.is("circuit(0)", g.circuit(0), true);
+        due.is("the walk is another", g.states(), 3);
+        due.is("hazards", g.count(2), 2);
+        due.is("live(0)", g.live(0), 0);
+        Due.feed(g, "a=a'");
+        due.is("circuit(2)", g.circuit(2), true);
+        due.is("the walk is another", g.states(), 2);
+        due.is("hazards", g.count(2), 0);
+        due.is("stops", g.count(3), 0);
+        due.is("live(0)", g.live(0), 1);
+        due.is("state(0)", g.state(0), 2);
+        due.is("place(0)", g.place(0), -1);
     }
 
     private static void refusedChangesNothing(Due due) {

@@ -62,6 +62,12 @@ final class HazardTest {
         g = Due.of("a=c';b=1;c=1", 0);
         due.is("states 0 1 2 4 ..", g.state(2), 2);
         lookAt(due, g, new int[][] {{0, 0, 2}, {2, 0, 2}});
+        g = Due.of("a=b';b=1;c=1;d=1", 0);
+        lookAt(due, g, new int[][] {{0, 0, 1}, {4, 0, 1}, {8, 0, 1}, {12, 0, 1}});
+        g = Due.of("a=b'+c;b=a'+d;d=1", 0);
+        lookAt(due, g, new int[][] {{0, 0, 1}, {0, 1, 0}, {8, 0, 1}});
+        g = Due.of("a=1;b=c';c=b'", 0);
+        lookAt(due, g, new int[][] {{0, 1, 2}, {0, 2, 1}, {1, 1, 2}, {1, 2, 1}});
         g = Due.of("a=0;b=a';c=b", 4);
         due.is("stuck ones have none", g.stuck(1, true), true);
         due.is("count(2)", g.count(2), 0);

@@ -46,14 +46,13 @@ final class LotsTest {
         due.is("nothing asked", g.run(10, 7), 4);
     }
 
-    /** Seed 0: the first lot is the addend; shifted right by 33 it is 167953088, of two place 0, of three place 2. */
+    /** Seed 0: the first lot is the addend; shifted right by 33 it is 167951807: of two place 1, of three place 2. */
     private static void byHand(Due due) {
-        long first = 1442695040888963407L >>> 33;
         GateWalk two = Due.of("a=1;c=1", 0);
-        due.is("of two", two.run(1, 0), first % 2 == 0 ? 1 : 4);
+        due.is("of two", two.run(1, 0), 4);
         GateWalk three = Due.of("a=1;c=1;l=1", 0);
-        int[] signals = {1, 4, 2048};
-        due.is("of three", three.run(1, 0), signals[(int) (first % 3)]);
+        due.is("of three", three.run(1, 0), 2048);
+        due.is("where one alone is asked", Due.of("k=1", 0).run(1, 0), 1024);
     }
 
     /** All signals are asked in every state, so that the lots alone decide. */

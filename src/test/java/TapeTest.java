@@ -58,6 +58,9 @@ final class TapeTest {
         due.is("three stay", g.count(6), 3);
         due.is("the first stay", g.fault(), -1);
         due.is("cut ones do not come back", g.end(4), false);
+        due.is("end(1)", g.end(1), true);
+        due.is("cut ones are not read", g.fault(), 1);
+        due.is("feed", Due.feed(g, "=b"), 3);
         due.is("feed goes on there", Due.feed(g, ";d=e"), 7);
         due.is("circuit", g.circuit(2 + 16), true);
         due.is("a and d are asked", g.asked(2 + 16), 1 + 8);

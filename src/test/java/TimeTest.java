@@ -6,7 +6,7 @@ final class TimeTest {
         chain(due);
         ring(due);
         deadRing(due);
-        fardest(due);
+        farthest(due);
         due.finish();
     }
 
@@ -48,6 +48,19 @@ final class TimeTest {
         g.arc(3, 1, 0);
         due.is("the greatest", g.time(1, 1), 14);
         due.is("the greatest", g.time(1, 4), 17);
+        g = new GateWalk();
+        for (int delay = 1; delay <= 4; delay++) {
+            g.node(delay);
+        }
+        // Each arc is told before those that it waits for.
+        g.arc(1, 0, 0);
+        g.arc(2, 0, 0);
+        g.arc(2, 1, 0);
+        g.arc(3, 2, 0);
+        due.is("time(3, 1)", g.time(3, 1), 4);
+        due.is("time(2, 1)", g.time(2, 1), 7);
+        due.is("time(1, 1)", g.time(1, 1), 9);
+        due.is("time(0, 1)", g.time(0, 1), 10);
     }
 
     private static void ring(Due due) {
@@ -89,7 +102,7 @@ final class TimeTest {
     }
 
     /** The greatest time there can be: all delays of all nodes, two hundred times. */
-    private static void fardest(Due due) {
+    private static void farthest(Due due) {
         GateWalk g = new GateWalk();
         for (int i = 0; i < 10; i++) {
             g.node(100);
@@ -99,5 +112,10 @@ final class TimeTest {
         }
         due.is("time(9, 200)", g.time(9, 200), 200000);
         due.is("time(0, 200)", g.time(0, 200), 199100);
+        g.clear();
+        g.node(3);
+        due.is("anew", g.time(0, 5), 3);
+        g.node(4);
+        due.is("a node more has its own times", g.time(1, 5), 4);
     }
 }
