@@ -4,12 +4,20 @@ import java.nio.charset.StandardCharsets;
 final class Due {
     private int wrong;
     private int looked;
+    private int sentences;
+    /** The sentence of the document that is being looked at, told with each wrong answer. */
+    private String sentence = "";
+
+    void sentence(String words) {
+        sentences++;
+        sentence = "[" + words + "] ";
+    }
 
     void is(String what, long got, long want) {
         looked++;
         if (got != want) {
             wrong++;
-            System.out.println(what + " answered " + got + ", due is " + want);
+            System.out.println(sentence + what + " answered " + got + ", due is " + want);
         }
     }
 
@@ -29,7 +37,8 @@ final class Due {
     }
 
     void finish() {
-        System.out.println(looked + " answers, " + wrong + " not as due");
+        String of = sentences == 0 ? "" : sentences + " sentences, ";
+        System.out.println(of + looked + " answers, " + wrong + " not as due");
         if (wrong != 0 || looked == 0) {
             System.exit(1);
         }
@@ -62,6 +71,12 @@ final class Due {
             throw new IllegalStateException("no circuit: " + text);
         }
         return g;
+    }
+
+    /** Numbers that are not in low .. high: the next ones, the farthest, and one that is inside if cut to 16 bits. */
+    static int[] outside(int low, int high) {
+        return new int[] {low - 1, high + 1, low - 65536, high + 65536, Integer.MIN_VALUE, Integer.MIN_VALUE + 1,
+            Integer.MAX_VALUE};
     }
 
     static int faultOf(String text) {
