@@ -378,6 +378,12 @@ final class WalkEdgesTest {
         DUE.is("all at once", Due.of(ALL_FREE, 0).both(4095), 4095);
         DUE.is("the empty set of a new object", new GateWalk().both(0), 0);
         DUE.is("a set of a new object", new GateWalk().both(1), -1);
+        GateWalk less = Due.of("a=1;b=1", 0);
+        DUE.is("both(3)", less.both(3), 3);
+        less.stuck(0, true);
+        DUE.is("both(3) any more", less.both(3), -1);
+        less.stuck(1, true);
+        DUE.is("both(2) any more", less.both(2), -1);
     }
 
     private static void noSetAtAll() {
