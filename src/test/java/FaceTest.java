@@ -18,7 +18,8 @@ final class FaceTest {
         "int state(int)", "int place(int)", "int hazard(int, int)", "int stop(int)", "int way(int)",
         "int change(int, int)", "int live(int)", "int both(int)", "int run(int, long)",
         "int changed(int, long, int)", "int node(int)", "int arc(int, int, int)", "boolean tokens(int, int)",
-        "void clear()", "int dead()", "long turn(int)", "int time(int, int)", "int helps()", "int count(int)"};
+        "void clear()", "int dead()", "long turn(int)",
+        "int time(int, int) throws java.util.NoSuchElementException", "int helps()", "int count(int)"};
     /** Some 600,000 objects and 7.3 million elements are there for a run; an object takes this at most. */
     private static final int OBJECTS_OF_ONE = 100;
     private static final int ELEMENTS_OF_ONE = 40000;
@@ -40,13 +41,18 @@ final class FaceTest {
         Set<String> found = new TreeSet<>();
         for (Method method : GateWalk.class.getDeclaredMethods()) {
             if (!Modifier.isPrivate(method.getModifiers()) && !method.isSynthetic()) {
-                String types = Arrays.toString(method.getParameterTypes()).replaceAll("[\\[\\]]", "");
-                found.add(method.getReturnType() + " " + method.getName() + "(" + types + ")");
+                StringBuilder face = new StringBuilder(method.getReturnType() + " " + method.getName() + "(");
+                face.append(Arrays.toString(method.getParameterTypes()).replaceAll("[\\[\\]]", "")).append(")");
+                for (Class<?> thrown : method.getExceptionTypes()) {
+                    face.append(" throws ").append(thrown.getName());
+                }
+                found.add(face.toString());
                 DUE.is(method + " is public alone", method.getModifiers(), Modifier.PUBLIC);
             }
         }
         Set<String> want = new TreeSet<>(List.of(FACE));
         DUE.is("methods " + found + ", due are " + want, found.equals(want), true);
+        constant();
         for (Field field : GateWalk.class.getDeclaredFields()) {
             boolean isPrivate = Modifier.isPrivate(field.getModifiers());
             DUE.is("field " + field, isPrivate, !field.getName().equals("NONE"));
@@ -62,10 +68,21 @@ final class FaceTest {
         }
     }
 
+    private static void constant() {
+        DUE.is("NONE", GateWalk.NONE, -1);
+        for (Field field : GateWalk.class.getDeclaredFields()) {
+            if (field.getName().equals("NONE")) {
+                int due = Modifier.PUBLIC | Modifier.STATIC | Modifier.FINAL;
+                DUE.is("NONE is public, static and final", field.getModifiers(), due);
+                DUE.is("NONE is an int", field.getType() == int.class, true);
+            }
+        }
+    }
+
     private static void namesOfTheFaceAreItsOwn() {
         Set<String> face = new HashSet<>();
         for (String method : FACE) {
-            face.add(method.replaceAll(".* (\\w+)\\(.*", "$1"));
+            face.add(method.replaceAll("^\\w+ (\\w+)\\(.*", "$1"));
         }
         Set<Class<?>> all = new HashSet<>(List.of(GateWalk.class.getDeclaredClasses()));
         all.add(GateWalk.class);
